@@ -430,6 +430,18 @@ public final class TemperDowns {
         /** Value k is the step FIRST_VALUE - k. */
         static final int FIRST_VALUE = -20;
 
+        /** Values of a person, and in the same places those of a puffball. */
+        static final int MILD = 0;
+        static final int TEMPER = 1;
+        static final int SHOUTS = 2;
+        static final int HEARD = 3;
+        static final int HOLDS = 0;
+        static final int SIZE = 1;
+        static final int AGE = 2;
+        static final int NEAR = 3;
+        static final int DAY = 4;
+        static final int VALUES = 5;
+
         private final int[] steps = new int[MOST_BYTES];
         private int length;
 
@@ -1008,7 +1020,13 @@ public final class TemperDowns {
                 return true;
             }
             if (kind == WORD) {
-                return readValue();
+                int which = ofPeople ? valueOfPerson() : valueOfBall();
+                if (which == NONE) {
+                    return fail(UNKNOWN);
+                }
+                rule.add(Rule.FIRST_VALUE - which);
+                nextToken();
+                return true;
             }
             if (within >= MOST_WITHIN || !isSign('(')) {
                 return fail(MISPLACED);
@@ -1017,46 +1035,36 @@ public final class TemperDowns {
             return readExpr(within + 1) && readSign(')');
         }
 
-        private boolean readValue() {
-            int which = ofPeople ? valueOfPerson() : valueOfBall();
-            if (which == NONE) {
-                return fail(UNKNOWN);
-            }
-            rule.add(Rule.FIRST_VALUE - which);
-            nextToken();
-            return true;
-        }
-
         private int valueOfPerson() {
             if (isWord("mild")) {
-                return Downs.FIRST;
+                return Rule.MILD;
             }
             if (isWord("temper")) {
-                return Downs.SECOND;
+                return Rule.TEMPER;
             }
             if (isWord("shouts")) {
-                return Downs.THIRD;
+                return Rule.SHOUTS;
             }
             if (isWord("heard")) {
-                return Downs.FOURTH;
+                return Rule.HEARD;
             }
-            return isWord("day") ? Downs.DAY : NONE;
+            return isWord("day") ? Rule.DAY : NONE;
         }
 
         private int valueOfBall() {
             if (isWord("holds")) {
-                return Downs.FIRST;
+                return Rule.HOLDS;
             }
             if (isWord("size")) {
-                return Downs.SECOND;
+                return Rule.SIZE;
             }
             if (isWord("age")) {
-                return Downs.THIRD;
+                return Rule.AGE;
             }
             if (isWord("near")) {
-                return Downs.FOURTH;
+                return Rule.NEAR;
             }
-            return isWord("day") ? Downs.DAY : NONE;
+            return isWord("day") ? Rule.DAY : NONE;
         }
     }
 
@@ -1123,12 +1131,6 @@ public final class TemperDowns {
 
     /** How days go by and puffballs go off in a scene of the land. */
     private static final class Downs {
-        /** Places of the rules' values: mild or holds, temper or size, and so on. */
-        static final int FIRST = 0;
-        static final int SECOND = 1;
-        static final int THIRD = 2;
-        static final int FOURTH = 3;
-        static final int DAY = 4;
         private static final int OLD = 10;
 
         /** Kinds of what a day brings. */
@@ -1141,7 +1143,7 @@ public final class TemperDowns {
         final int[] latest = new int[3];
         /** By puffball: others that hold something in its reach, when it was linked last. */
         private final int[] links = new int[MOST_BALLS];
-        private final int[] values = new int[5];
+        private final int[] values = new int[Rule.VALUES];
         /** Five numbers may wait in each of six expressions, and one stands on top. */
         private final int[] stack = new int[40];
 
@@ -1284,11 +1286,11 @@ public final class TemperDowns {
             if (!land.rises.isTold()) {
                 return 10 - scene.mildOf(person);
             }
-            values[FIRST] = scene.mildOf(person);
-            values[SECOND] = scene.temperOf(person);
-            values[THIRD] = scene.shoutedBy(person);
-            values[FOURTH] = scene.heardBy(person);
-            values[DAY] = scene.day();
+            values[Rule.MILD] = scene.mildOf(person);
+            values[Rule.TEMPER] = scene.temperOf(person);
+            values[Rule.SHOUTS] = scene.shoutedBy(person);
+            values[Rule.HEARD] = scene.heardBy(person);
+            values[Rule.DAY] = scene.day();
             return Math.max(0, Math.min(MOST_RISE, land.rises.worth(values, stack)));
         }
 
@@ -1309,11 +1311,11 @@ public final class TemperDowns {
             if (!land.bursts.isTold()) {
                 return scene.ageOf(ball) >= OLD;
             }
-            values[FIRST] = scene.heldIn(ball);
-            values[SECOND] = land.size[ball];
-            values[THIRD] = scene.ageOf(ball);
-            values[FOURTH] = Integer.bitCount(links[ball]);
-            values[DAY] = scene.day();
+            values[Rule.HOLDS] = scene.heldIn(ball);
+            values[Rule.SIZE] = land.size[ball];
+            values[Rule.AGE] = scene.ageOf(ball);
+            values[Rule.NEAR] = Integer.bitCount(links[ball]);
+            values[Rule.DAY] = scene.day();
             return land.bursts.worth(values, stack) > 0;
         }
 

@@ -151,6 +151,12 @@ public final class AheadTest {
         Due.is("never shouts", Due.of("person 0 0 0;rises 0;").when(0, 1), -1);
         Due.is("on the last day", Due.of("person 0 0 0;rises (day=59)*20;").when(0, 1), 60);
         Due.is("too late", Due.of("person 0 0 0;rises (day=60)*20;").when(0, 1), -1);
+        TemperDowns both = Due.of("person 0 0 10;person 1 0 10;ball 0 99;ball 0 99;");
+        Due.is("both go out", both.when(0, 0), 1);
+        Due.is("both go out at once", both.when(1, 0), 1);
+        TemperDowns neither = Due.of("person 0 0 10;person 1 0 10;");
+        Due.is("both shout", neither.when(0, 1), 1);
+        Due.is("both shout at once", neither.when(1, 1), 1);
         TemperDowns z = Due.of("person 0 0 20;ball 0 20;ball 1 30;rises 0;");
         z.soothe(0, 21);
         z.days(1);

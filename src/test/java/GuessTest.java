@@ -85,6 +85,25 @@ public final class GuessTest {
         z.see(1, 3, false);
         milder(z, 3, 17, 0);
         look(z, 0, 3);
+        z.see(1, 2, true);
+        z.see(1, 0, false);
+        milder(z, 0, -1, 0);
+        TemperDowns eighth = Due.of("person 0 0 0;ball 0 99;ball 3 99 holds 50;bursts day=8;"
+                + "rises (day=6)*10+(day=7)*(10+mild);");
+        look(eighth, 0, 9);
+        eighth.see(0, 9, true);
+        look(eighth, 0, 9);
+        TemperDowns great = Due.of("person 0 0 80;ball 0 99;ball 3 99 holds 50;rises (day=0)*(10+mild);"
+                + "bursts 0;");
+        look(great, 0, 9);
+        TemperDowns other = Due.of("person 0 0 80;ball 3 99 holds 50;ball 0 99;rises (day=0)*(10+mild);"
+                + "bursts 0;");
+        look(other, 1, 9);
+        TemperDowns single = Due.of("person 0 0 0;ball 3 99 holds 50;ball 0 99;rises mild=9 and 20;");
+        look(single, 0, 1);
+        single.see(1, 20, false);
+        milder(single, 1, 9, 0);
+        look(single, 0, 1);
         TemperDowns late = Due.of(ONE);
         late.see(0, 10, false);
         late.see(0, 12, true);
@@ -154,6 +173,24 @@ public final class GuessTest {
                 + "bursts age=1 or age=2 or age=3;");
         Due.is("either nobody goes out and hears, or both", heard.game(0, 1, 0), 2);
         Due.is("of these the first", heard.game(0, 1, 1), 0);
+        Due.is("beyond ten days",
+                Due.of("person 0 0 5;person 3 0 5;ball 0 9;ball 3 9;rises (day=10)*15;bursts 0;").game(0, 1, 1), 0);
+        TemperDowns tenth = Due.of("person 0 0 5;person 3 0 5;ball 0 9;ball 3 9;rises (day=9)*15;bursts 0;");
+        Due.is("a shout on the tenth", tenth.game(0, 1, 1), 11);
+        Due.is("both must", tenth.game(1, 0, 0), 1);
+        evenGames();
+    }
+
+    /** For the one with temper 15 a shout is as dear as to go out and hear two. */
+    private static void evenGames() {
+        String rest = "ball 0 15;ball 0 9 holds 1;rises (day=9)*5;bursts holds=15;";
+        TemperDowns first = Due.of("downs 1 1;person 0 0 15;person 0 0 1;" + rest);
+        Due.is("both rest", first.game(0, 1, 0), 2);
+        Due.is("the first of them", first.game(0, 1, 1), 0);
+        Due.is("both rest the other way", first.game(1, 0, 0), 2);
+        TemperDowns second = Due.of("downs 1 1;person 0 0 1;person 0 0 15;" + rest);
+        Due.is("both rest by the second", second.game(1, 0, 0), 2);
+        Due.is("both rest so, too", second.game(0, 1, 0), 2);
     }
 
     private static int seed;
@@ -204,6 +241,22 @@ public final class GuessTest {
         Due.is("nothing is so now", y.count(4), 0);
         x.guard(0, true);
         Due.is("guarded", x.years(0, 60, 0), 0);
+        TemperDowns often = Due.of("person 0 0 0;ball 0 99;rises 20;bursts 0;");
+        seed = 4711;
+        int trodden = 0;
+        boolean white = true;
+        for (int day = 0; day < 60; day++) {
+            int drawn = draw(5);
+            if (drawn == 0) {
+                draw(1);
+                trodden += white ? 0 : 1;
+            } else if (drawn == 1) {
+                draw(1);
+                draw(60);
+            }
+            white = false;
+        }
+        Due.is("often", often.years(4711, 60, 0), trodden);
         Due.is("what bursts counts", Due.of("ball 0 9 holds 5;bursts age=1;").years(77, 60, 0), 1);
         Due.is("nobody, nothing", new TemperDowns().years(9, 60, 2), 0);
     }

@@ -46,6 +46,7 @@ public final class PlansTest {
         Due.is("then the least",
                 Due.of("downs 3 1;person 1 0 0;ball 1 99 holds 5;").fire(0, 0), 0);
         Due.is("where it is", Due.of("downs 5 1;person 2 0 0;ball 3 9 holds 5;").fire(0, 0), 3);
+        Due.is("a tenth, cut down", Due.of("downs 3 1;person 0 0 0;ball 2 99 holds 19;").fire(0, 1), 0);
         Due.is("the least far", Due.of("downs 6 1;person 3 0 0;person 4 0 0;ball 4 9 holds 5;").fire(0, 0), 5);
         TemperDowns y = Due.of("downs 2 1;person 0 0 0;person 0 0 0;person 1 0 0;ball 0 99 holds 99;");
         Due.is("all the same", y.fire(0, 0), 0);
@@ -67,6 +68,7 @@ public final class PlansTest {
         Due.is("no step into it", x.pram(3, 4, 1), -1);
         Due.is("to itself", x.pram(4, 4, 0), 0);
         Due.is("no step to itself", x.pram(4, 4, 1), -1);
+        Due.is("no step beside it either", x.pram(3, 3, 1), -1);
         Due.is("white ones don't bar", x.pram(3, 1, 0), 2);
         Due.is("through a white one", x.pram(3, 1, 1), 0);
         Due.none("pram(9, 0, 0)", () -> x.pram(9, 0, 0));
@@ -122,6 +124,11 @@ public final class PlansTest {
         rows(Due.of("person 0 0 10;person 0 0 50;ball 0 50;ball 0 10;"), "as many as can", 2, 0, 1, 0);
         rows(Due.of("person 0 0 10;person 0 0 10;person 0 0 90;ball 0 99;ball 0 20;ball 0 11;"),
                 "all of them", 3, 20, 1, 2, 0);
+        rows(Due.of("person 0 0 5;person 0 0 5;ball 0 9;ball 0 9;"), "no two to one", 2, 8, 0, 1);
+        rows(Due.of("person 0 0 1;ball 0 9 holds 1;ball 0 9;"), "white ones", 1, 8, 1);
+        rows(Due.of("person 0 0 30;person 0 0 20;person 0 0 10;ball 0 30;ball 0 20;ball 0 10;"),
+                "just so", 3, 0, 0, 1, 2);
+        Due.is("asked at once", Due.of("person 0 0 0;person 0 0 4;ball 0 3;ball 0 4;").put(1), 1);
         rows(Due.of("person 0 0 10;ball 0 5;"), "too small", 0, 0, -1);
         rows(Due.of("person 0 0 10;"), "no puffballs", 0, 0, -1);
         rows(Due.of("ball 0 5;"), "nobody", 0, 0);

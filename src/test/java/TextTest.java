@@ -105,6 +105,8 @@ public final class TextTest {
         Due.is("without", Due.read(x, "person 0 4 0;ball 5 99 holds 9;"), 0);
         Due.is("without rises", x.mood(0, 1, 0), 6);
         Due.is("without bursts", x.off(0), 10);
+        Due.is("without holds", Due.read(x, "ball 5 99;"), 0);
+        Due.is("it holds nothing", x.ball(0, 2), 0);
     }
 
     private static void faultsOfLines() {
@@ -117,6 +119,8 @@ public final class TextTest {
         Due.fault("5", 1, 0);
         Due.fault("12345", 1, 0);
         Due.fault("persons 0 0 0;", 1, 0);
+        Due.fault("derson 0 0 0;", 1, 0);
+        Due.fault("persoo 0 0 0;", 1, 0);
         Due.fault("person", 1, 6);
         Due.fault("person  \n", 1, 9);
         Due.fault("person 0 0 0", 1, 12);
@@ -196,6 +200,12 @@ public final class TextTest {
         Due.fault("rises 1 mild;", 1, 8);
         Due.fault("rises -1;", 1, 6);
         Due.fault("rises 1 ? 2;", 1, 8);
+        Due.fault("rises 1 or ;x", 1, 11);
+        Due.fault("rises 1 and ;x", 1, 12);
+        Due.fault("rises 1*;x", 1, 8);
+        Due.fault("rises 1-;x", 1, 8);
+        Due.fault("rises 1=;x", 1, 8);
+        Due.fault("rises not ;x", 1, 10);
         Due.fault("rises not;", 1, 9);
         Due.fault("rises not not not not not not 1;", 0, -1);
         Due.fault("rises not not not not not not not 1;", 2, 30);
@@ -237,6 +247,8 @@ public final class TextTest {
         worth("5 and 3", 1);
         worth("5 and 0", 0);
         worth("0-1 and 2", 1);
+        worth("1 and 1", 1);
+        worth("0 and 1", 0);
         worth("0 or 7", 1);
         worth("0 or 0", 0);
         worth("1 or 0 and 0", 1);
@@ -248,6 +260,9 @@ public final class TextTest {
         worth("temper", 4);
         worth("mild*temper", 12);
         worth("shouts+heard+day", 0);
+        String level = "0 or 1 and 3=2+1*(";
+        worth(level.repeat(5) + "0 or 1 and 7=2+1*5" + ")".repeat(5), 1);
+        worth(level.repeat(5) + "0 or 1 and 7=2+1*4" + ")".repeat(5), 0);
         int wraps = 9999 * 9999 * 9999;
         worth("9999*9999*9999<0", wraps < 0 ? 1 : 0);
         worth("9999*9999*9999/9999/9999/2-9999/2", Math.max(0, wraps / 9999 / 9999 / 2 - 9999 / 2));
@@ -255,6 +270,12 @@ public final class TextTest {
         TemperDowns x = Due.of("person 0 0 0;rises 25;");
         Due.is("no more than 20", x.mood(0, 1, 0), 10);
         Due.is("and so one shouts", x.mood(0, 1, 1), 1);
+        Due.is("just 20", Due.of("person 0 0 0;ball 0 99;rises 25;").then(0, 1, 0), 20);
+        TemperDowns z = Due.of("person 0 0 0;ball 0 99 holds 1;ball 1 99 holds 1;bursts age=size-97;"
+                + "rises heard*7;");
+        Due.is("nothing heard yet", z.mood(0, 2, 0), 5);
+        Due.is("heard", z.mood(0, 3, 0), 12);
+        Due.is("the other", z.off(1), 2);
         TemperDowns y = Due.of("person 0 0 0;rises day*2+shouts*3;");
         int[] due = {0, 2, 6, 12, 10, 11, 14};
         for (int day = 1; day <= due.length; day++) {
