@@ -820,9 +820,9 @@ public final class TemperDowns {
             return true;
         }
 
-        /** A cell that there isn't is unknown however many digits it has. */
+        /** Too many digits are the lesser fault of the two, so they count ahead of no such cell. */
         private boolean readCell() {
-            if (kind == NUMBER && value >= land.cells) {
+            if (kind == NUMBER && !tooLong && value >= land.cells) {
                 return fail(UNKNOWN);
             }
             return readNumber(0, land.cells - 1);

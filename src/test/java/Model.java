@@ -344,11 +344,11 @@ final class Model {
 
     private int cellNumber() {
         Token t = peek();
-        if (t.number() && new java.math.BigInteger(t.text())
-                .compareTo(java.math.BigInteger.valueOf(newW * newH)) >= 0) {
+        int cell = number(0, 9999);
+        if (cell >= newW * newH) {
             throw new Fault(3, t.place());
         }
-        return number(0, 9999);
+        return cell;
     }
 
     private void parse(String text) {

@@ -127,11 +127,6 @@ public final class TextTest {
         Due.fault("person 0 0 0;", 0, -1);
         Due.fault("person0 0\n0;", 0, -1);
         Due.fault("person 15 9 99;", 0, -1);
-        Due.fault("person 16 0 0;", 3, 7);
-        Due.fault("person 9999 0 0;", 3, 7);
-        Due.fault("person 99999999999 0 0;", 3, 7);
-        Due.fault("person 00001 0 0;", 2, 7);
-        Due.fault("person 0001 0 0;", 0, -1);
         Due.fault("person x 0 0;", 1, 7);
         Due.fault("person 0 10 0;", 2, 9);
         Due.fault("person 0 0 100;", 2, 11);
@@ -139,7 +134,6 @@ public final class TextTest {
         Due.fault("person 0 0 0 12345;", 1, 13);
         Due.fault("person 0 0 0 0;", 1, 13);
         Due.fault("ball 0 1;", 0, -1);
-        Due.fault("ball 16 1;", 3, 5);
         Due.fault("ball 0 0;", 2, 7);
         Due.fault("ball 0 100;", 2, 7);
         Due.fault("ball 0 99 holds 99;", 0, -1);
@@ -150,6 +144,33 @@ public final class TextTest {
         Due.fault("ball 0 9 holds 1 holds 1;", 1, 17);
         Due.fault("ball 0;", 1, 6);
         Due.fault("person 0 0 0;" + (char) 233, 1, 13);
+    }
+
+    /** Of five digits or more it is too much, there or not; of fewer, if there isn't, unknown. */
+    private static void faultsOfCells() {
+        String[] lines = {"person ", "ball "};
+        String[] ends = {" 0 0;", " 1;"};
+        for (int i = 0; i < lines.length; i++) {
+            int place = lines[i].length();
+            Due.fault(lines[i] + "0" + ends[i], 0, -1);
+            Due.fault(lines[i] + "15" + ends[i], 0, -1);
+            Due.fault(lines[i] + "0015" + ends[i], 0, -1);
+            Due.fault(lines[i] + "16" + ends[i], 3, place);
+            Due.fault(lines[i] + "0016" + ends[i], 3, place);
+            Due.fault(lines[i] + "9999" + ends[i], 3, place);
+            Due.fault(lines[i] + "9999", 3, place);
+            Due.fault(lines[i] + "00000" + ends[i], 2, place);
+            Due.fault(lines[i] + "00015" + ends[i], 2, place);
+            Due.fault(lines[i] + "00016" + ends[i], 2, place);
+            Due.fault(lines[i] + "10000" + ends[i], 2, place);
+            Due.fault(lines[i] + "10000", 2, place);
+            Due.fault(lines[i] + "99999999999" + ends[i], 2, place);
+            Due.fault(lines[i] + "4294967296" + ends[i], 2, place);
+            Due.fault(lines[i] + "9".repeat(600) + ends[i], 2, place);
+        }
+        Due.fault("ball 10000 1" + (char) 0, 2, 5);
+        Due.fault("downs 1 1;ball 1 1;", 3, 15);
+        Due.fault("downs 1 1;ball 00000 1;", 2, 15);
     }
 
     private static void faultsOfMeasures() {
@@ -301,6 +322,7 @@ public final class TextTest {
         counties();
         rulesAreAnew();
         faultsOfLines();
+        faultsOfCells();
         faultsOfMeasures();
         faultsOfRules();
         rules();
