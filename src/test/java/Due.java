@@ -1,4 +1,4 @@
-/** What the tests share: counties by their text, answers that are due, exceptions that are due. */
+/** What the tests share: counties by their text, answers, refusals, exceptions that are due. */
 final class Due {
     interface Call {
         Object answer();
@@ -70,6 +70,90 @@ final class Due {
 
     static void wrong(String what, Call call) {
         is(what + " throws (2 IllegalArgumentException)", thrown(call), IAE);
+    }
+
+    /** Runs every test of a class, a method each, and says of which promise an answer is wrong. */
+    static void runAll(Class<?> tests) {
+        java.lang.reflect.Method[] methods = tests.getDeclaredMethods();
+        java.util.Arrays.sort(methods, java.util.Comparator.comparing(java.lang.reflect.Method::getName));
+        for (java.lang.reflect.Method m : methods) {
+            if (m.getParameterCount() == 0 && !m.isSynthetic() && m.getReturnType() == void.class) {
+                promise(tests.getSimpleName() + " " + m.getName());
+                run(m);
+            }
+        }
+        end();
+    }
+
+    private static void run(java.lang.reflect.Method test) {
+        try {
+            test.setAccessible(true);
+            test.invoke(null);
+        } catch (java.lang.reflect.InvocationTargetException e) {
+            wrong++;
+            System.out.println(promise + " throws " + e.getCause());
+        } catch (IllegalAccessException e) {
+            throw new AssertionError(e);
+        }
+    }
+
+    /** All that can be seen of an object, but for what STATUS counts. */
+    static String state(TemperDowns x) {
+        StringBuilder s = new StringBuilder();
+        for (int what = 0; what <= 13; what++) {
+            s.append(x.count(what)).append(' ');
+        }
+        s.append(x.fault()).append(' ');
+        for (int person = 0; person < x.count(0); person++) {
+            for (int what = 0; what <= 6; what++) {
+                s.append(x.person(person, what)).append(' ');
+            }
+        }
+        for (int ball = 0; ball < x.count(1); ball++) {
+            for (int what = 0; what <= 7; what++) {
+                s.append(x.ball(ball, what)).append(' ');
+            }
+        }
+        for (int what = 0; what <= 2; what++) {
+            s.append(x.milder(what)).append(' ');
+        }
+        return s.toString();
+    }
+
+    /** Texts, acts, what is seen: how many of each were refused. */
+    private static void status(String what, TemperDowns x, int[] due) {
+        for (int kind = 0; kind < 3; kind++) {
+            is(what + ": status " + kind, x.count(14 + kind), due[kind]);
+        }
+    }
+
+    private static int[] status(TemperDowns x) {
+        return new int[] {x.count(14), x.count(15), x.count(16)};
+    }
+
+    /** Each call is refused, with NONE or false, and counted; all else stays as it was. */
+    static void refused(TemperDowns x, int kind, Call... calls) {
+        String before = state(x);
+        int[] due = status(x);
+        for (int i = 0; i < calls.length; i++) {
+            Object answer = calls[i].answer();
+            is("refused call " + i, answer.equals(-1) || answer.equals(false), true);
+            due[kind]++;
+        }
+        status("behind refused calls", x, due);
+        is("all stays behind refused calls", state(x).equals(before), true);
+    }
+
+    /** Each call throws this one, none is counted, and all stays as it was. */
+    static void thrown(TemperDowns x, int which, Call... calls) {
+        String before = state(x);
+        int[] due = status(x);
+        for (int i = 0; i < calls.length; i++) {
+            is("call " + i + " throws (1 NoSuchElementException, 2 IllegalArgumentException)",
+                    thrown(calls[i]), which);
+        }
+        status("behind calls that threw", x, due);
+        is("all stays behind calls that threw", state(x).equals(before), true);
     }
 
     static void end() {
