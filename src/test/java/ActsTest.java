@@ -257,20 +257,28 @@ public final class ActsTest {
         }
     }
 
+    /** Another object, for one answers 512 calls at most: so many acts are done. */
+    private static TemperDowns behind(int acts) {
+        TemperDowns x = Due.of(THREE_BY_TWO);
+        for (int i = 0; i < acts; i++) {
+            act(x, i);
+        }
+        return x;
+    }
+
     private static void undoing() {
         Due.promise("13");
-        TemperDowns x = Due.of(THREE_BY_TWO);
-        String[] before = new String[6];
+        TemperDowns done = Due.of(THREE_BY_TWO);
         for (int i = 0; i < 6; i++) {
-            before[i] = all(x);
-            Due.is("act " + i + " is done", act(x, i) != -1, true);
+            Due.is("act " + i + " is done", act(done, i) != -1, true);
         }
         for (int i = 5; i >= 0; i--) {
-            Due.is("left", x.undo(), i);
-            Due.is("all as before act " + i, all(x).equals(before[i]), true);
+            Due.is("left", done.undo(), i);
+            Due.is("all as before act " + i, all(done).equals(all(behind(i))), true);
         }
-        Due.is("none", x.undo(), -1);
-        Due.is("no status", x.count(15), 0);
+        Due.is("none", done.undo(), -1);
+        Due.is("no status", done.count(15), 0);
+        TemperDowns x = Due.of(THREE_BY_TWO);
         for (int i = 1; i <= 45; i++) {
             x.soothe(0, i);
         }
@@ -291,9 +299,9 @@ public final class ActsTest {
         Due.promise("35");
         TemperDowns x = Due.of(THREE_BY_TWO);
         Due.is("no image", x.restore(), false);
-        String atFirst = all(x);
+        String atFirst = all(behind(0));
+        String behindDays = all(behind(1));
         act(x, 0);
-        String behindDays = all(x);
         act(x, 3);
         x.see(1, 3, false);
         String before = all(x);

@@ -7,12 +7,18 @@ import java.util.Random;
 /** Drawn runs of calls, each answered by the class and by the slow model, which must agree. */
 public final class ModelTest {
     private static final int CALLS = 400;
+    /** What an object answers later is free. */
+    private static final int MOST_CALLS = 512;
+    /** A text takes at most so many calls. */
+    private static final int CALLS_OF_TEXT = 38;
+    private static final int READERS = 8;
     private static int wrong = 0;
 
     private final Random r;
     private final TemperDowns real = new TemperDowns();
     private final Model model = new Model();
     private final List<String> log = new ArrayList<>();
+    private int calls = 0;
 
     private ModelTest(long seed) {
         r = new Random(seed);
@@ -35,6 +41,7 @@ public final class ModelTest {
         }
         Object got;
         Object due;
+        calls++;
         try {
             Method there = Model.class.getDeclaredMethod(name, types);
             got = answer(real, TemperDowns.class.getMethod(name, types), args);
@@ -130,7 +137,7 @@ public final class ModelTest {
         if (!feed(Text.county(r))) {
             return false;
         }
-        for (int i = 0; i < CALLS; i++) {
+        for (int i = 0; i < CALLS && calls + CALLS_OF_TEXT <= MOST_CALLS; i++) {
             int kind = r.nextInt(100);
             boolean same = kind == 0 ? feed(r.nextBoolean() ? Text.county(r) : Text.spoilt(r))
                     : kind < 45 ? act() : ask();
@@ -142,7 +149,7 @@ public final class ModelTest {
     }
 
     private boolean readOnly() {
-        for (int i = 0; i < 100; i++) {
+        while (calls + CALLS_OF_TEXT <= MOST_CALLS) {
             if (!feed(Text.spoilt(r))) {
                 return false;
             }
@@ -158,8 +165,10 @@ public final class ModelTest {
             if (!test.run()) {
                 System.out.println("in run " + seed);
             }
-            if (!new ModelTest(~seed).readOnly()) {
-                System.out.println("in texts " + seed);
+            for (int reader = 0; reader < READERS; reader++) {
+                if (!new ModelTest(~(seed * READERS + reader)).readOnly()) {
+                    System.out.println("in texts " + seed);
+                }
             }
         }
         System.out.println(wrong == 0 ? "model and class agree" : wrong + " answers are not as due");

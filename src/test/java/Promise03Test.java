@@ -249,6 +249,13 @@ public final class Promise03Test {
         right("person0 0\n0;ball 0 1holds1;rises(1)or 1;bursts age<1;");
         wrong(1, "persons 0 0 0;", "persons");
         wrong(1, "ballholds", "ballholds");
+        wrong(1, "derson 0 0 0;", "derson");
+        wrong(1, "persoo 0 0 0;", "persoo");
+        wrong(1, "call 0 1;", "call");
+        wrong(1, "vises 1;", "vises");
+        wrong(1, "qursts 1;", "qursts");
+        wrong(1, "towns 1 1;", "towns");
+        wrong(1, "ball 0 1 folds 1;", "folds");
         wrong(1, "per son 0 0 0;", "per");
         wrong(1, "risesmild;", "risesmild");
         wrong(1, "Ball 0 1;", "B");
@@ -318,6 +325,8 @@ public final class Promise03Test {
             wrong(3, "rises 1+" + word, word);
             wrong(3, "rises (" + word + ");", word);
             wrong(3, "rises not " + word, word);
+            wrong(3, "rises 1 or " + word + ";", word);
+            wrong(3, "rises 1 and " + word + ";", word);
             wrong(3, "rises 1<" + word, word);
         }
         for (String word : new String[] {"mild", "temper", "shouts", "heard", "hold", "sizes"}) {
@@ -371,10 +380,136 @@ public final class Promise03Test {
         wrong(1, "rises " + six + ";", ";");
     }
 
+    /** What a rule gives, 0 to 15: as much temper rises on the first day. */
+    private static void worth(String rule, int due) {
+        Due.is(rule, Due.of("person 0 3 4;rises " + rule + ";").mood(0, 1, 0) - 4, due);
+    }
+
+    private static void dividedBy0Gives0() {
+        worth("7/0", 0);
+        worth("7/0+3", 3);
+        worth("0/0", 0);
+        worth("7/(mild-3)+1", 1);
+        worth("7/1", 7);
+        worth("(0-7)/0+1", 1);
+    }
+
+    private static void dividedIsCutDownTo0() {
+        worth("7/2", 3);
+        worth("1/2", 0);
+        worth("(0-7)/2+10", 7);
+        worth("7/(0-2)+10", 7);
+        worth("(0-7)/(0-2)", 3);
+        worth("(0-1)/2+1", 1);
+    }
+
+    private static void fromTheLeft() {
+        worth("10-3-2", 5);
+        worth("10-3+2", 9);
+        worth("15/4*4", 12);
+        worth("15*2/4", 7);
+        worth("2+3*4", 14);
+        worth("14-3*4", 2);
+        worth("(2+1)*4", 12);
+        worth("1 or 0 and 0", 1);
+        worth("(1 or 0) and 0", 0);
+        worth("0 and 0 or 1", 1);
+        worth("not 0 and 0", 0);
+        worth("not 0 or 1", 1);
+        worth("not 1=2", 1);
+        worth("not 0+5", 0);
+        worth("1+1<3", 1);
+        worth("3=1+2", 1);
+    }
+
+    /** 2147483647 is 46340 * 46340 + 88047, and one more wraps. */
+    private static void intsThatWrap() {
+        String most = "(9268*5)*(9268*5)+9999*8+8055";
+        worth(most + "<0", 0);
+        worth("0<" + most, 1);
+        worth(most + "+1<0", 1);
+        worth(most + "+1+" + most + "+1", 0);
+        worth("(0-(" + most + ")-1)/(0-1)<0", 1);
+        worth("(0-(" + most + ")-2)=" + most, 1);
+        worth("9999*9999*9999<0", 9999 * 9999 * 9999 < 0 ? 1 : 0);
+        worth("(" + most + "+1)*2", 0);
+    }
+
+    private static void testsAre1Or0() {
+        worth("1<2", 1);
+        worth("2<2", 0);
+        worth("3<2", 0);
+        worth("0-1<0", 1);
+        worth("2=2", 1);
+        worth("2=3", 0);
+        worth("3=2", 0);
+        worth("(1<2)+(2=2)*2", 3);
+    }
+
+    private static void whatIsnt0Holds() {
+        for (int a = -1; a <= 5; a++) {
+            for (int b = -1; b <= 5; b++) {
+                String one = a < 0 ? "(0-1)" : String.valueOf(a);
+                String other = b < 0 ? "(0-1)" : String.valueOf(b);
+                worth(one + " and " + other, a != 0 && b != 0 ? 1 : 0);
+                worth(one + " or " + other, a != 0 || b != 0 ? 1 : 0);
+            }
+            worth("not " + (a < 0 ? "(0-1)" : String.valueOf(a)), a == 0 ? 1 : 0);
+        }
+        worth("not not 5", 1);
+        worth("not not 0", 0);
+        worth("1+(not 0)*3", 4);
+        worth("not not not not not not 7", 1);
+        worth("0 or 0 or 0", 0);
+        worth("0 or 0 or 9", 1);
+        worth("1 and 1 and 0", 0);
+    }
+
+    private static void deepestRules() {
+        String level = "0 or 1 and 3=2+1*(";
+        worth(level.repeat(5) + "0 or 1 and 7=2+1*5" + ")".repeat(5), 1);
+        worth(level.repeat(5) + "0 or 1 and 7=2+1*4" + ")".repeat(5), 0);
+        worth("(((((7)))))", 7);
+        worth("(((((not 0)))))", 1);
+        worth("1" + "+1".repeat(14), 15);
+        worth("1" + "+1-1".repeat(150), 1);
+    }
+
+    private static void valuesOfRises() {
+        worth("mild", 3);
+        worth("temper", 4);
+        worth("shouts", 0);
+        worth("heard", 0);
+        worth("day", 0);
+        TemperDowns x = Due.of("person 0 5 20;ball 0 9 holds 1;ball 0 9 holds 1;ball 0 9 holds 1;"
+                + "rises (day=1)*(mild=5)*(temper=0)*(shouts*4+heard+day);");
+        x.days(1);
+        x.tread(0);
+        x.soothe(0, 0);
+        x.days(1);
+        Due.is("5 and 1 and 0 and 4 and 3 and 1", x.person(0, 2), 8);
+    }
+
+    private static void valuesOfBursts() {
+        String text = "downs 3 1;ball 0 99 holds 20;ball 1 50 holds 7;ball 2 50 holds 7;ball 2 50;bursts RULE;";
+        String[] rules = {"holds=20", "size=99", "age=1", "near=2", "day=0", "holds+size+age+near+day=122",
+            "holds=7", "size=50", "near=0"};
+        int[] white = {15, 15, 15, 15, 15, 15, 14, 14, 14};
+        for (int i = 0; i < rules.length; i++) {
+            TemperDowns x = Due.of(text.replace("RULE", rules[i]));
+            x.days(1);
+            Due.is(rules[i], x.count(5), white[i]);
+        }
+    }
+
     private static void firstAlongTheText() {
         wrong(2, "ball 0 100;person 16 0 0;x", "100");
         wrong(3, "ball 16 100;", "16");
         wrong(1, "x 10000", "x");
+        for (String join : new String[] {" or ", " and ", "+", "*", "<", "=", "+(", " or not "}) {
+            wrong(1, "rises 1" + join + ";x", ";");
+            wrong(1, "rises 1" + join + ";ball 16 1;", ";b");
+        }
         wrong(1, "ball 0 1 ? 10000", "?");
         wrong(3, "rises x 10000;", "x");
         wrong(5, "rises 1;rises x;", "rises");

@@ -54,9 +54,22 @@ public final class Promise05Test {
         for (int person = 0; person < 7; person++) {
             sum += x.person(person, 3);
         }
+        int temper = 0;
+        for (int person = 0; person < 7; person++) {
+            temper += x.person(person, 2);
+        }
+        Due.is("temper of all", x.count(8), temper);
         Due.is("one's", x.person(6, 3), sum / 7);
         Due.is("all", x.count(9), sum);
         Due.is("some", sum > 0, true);
+    }
+
+    private static void heardIsNotShouted() {
+        TemperDowns x = Due.of("person 0 0 0;".repeat(7) + "ball 0 9 holds 1;");
+        x.tread(0);
+        Due.is("heard", x.person(0, 4), 1);
+        Due.is("nobody shouted", x.count(9), 0);
+        Due.is("temper of all", x.count(8), 35);
     }
 
     private static void allAtOnceNothing() {

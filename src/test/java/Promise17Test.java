@@ -20,6 +20,10 @@ public final class Promise17Test {
         Due.is("the last alone", Due.of("ball 0 9;".repeat(9) + "ball 0 9 holds 9;").first(), 9);
     }
 
+    private static void theFirstAlone() {
+        Due.is("it goes off", Due.of("ball 0 9 holds 5;ball 1 9;").first(), 0);
+    }
+
     private static void firstByDays() {
         Due.is("the greater, but ahead",
                 Due.of("ball 0 9 holds 4;ball 1 9 holds 5;bursts holds+age=8;").first(), 1);

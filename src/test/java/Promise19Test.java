@@ -56,6 +56,12 @@ public final class Promise19Test {
         Due.is("one, though not the least as bits", y.toGuard(0, 4), 8);
     }
 
+    private static void theFirstBetween() {
+        TemperDowns x = Due.of("downs 3 1;ball 1 99 holds 10;ball 0 99 holds 10;ball 2 99 holds 10;");
+        Due.is("the first of all", x.toGuard(1, 2), 1);
+        Due.is("the other way", x.toGuard(2, 1), 1);
+    }
+
     private static void eightOfTen() {
         TemperDowns x = Due.of("downs 5 1;ball 0 99 holds 20;" + "ball 2 99 holds 20;".repeat(8)
                 + "ball 4 9 holds 9;");

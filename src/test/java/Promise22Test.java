@@ -62,6 +62,17 @@ public final class Promise22Test {
         row("person 0 0 9;person 0 0 5;ball 0 9;", 1, 0);
     }
 
+    private static void askedAgain() {
+        TemperDowns x = Due.of("person 0 0 5;person 0 0 7;ball 0 9;ball 0 9;");
+        for (int again = 0; again < 2; again++) {
+            Due.is("how many", x.putBy(0), 2);
+            Due.is("how much more", x.putBy(1), 6);
+        }
+        x.soothe(0, 0);
+        Due.is("how many then", x.putBy(0), 1);
+        Due.is("how much more then", x.putBy(1), 2);
+    }
+
     private static void nothingChanges() {
         TemperDowns x = Due.of("person 0 0 5;ball 0 9;");
         String before = Due.state(x);

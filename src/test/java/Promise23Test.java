@@ -42,6 +42,24 @@ public final class Promise23Test {
         row("person 0 0 5;person 0 0 5;ball 0 9;ball 0 8;ball 0 7;", 1, 2);
     }
 
+    private static void inEachOrder() {
+        String balls = "ball 0 30;ball 0 10;ball 0 20;";
+        row("person 0 0 30;person 0 0 20;person 0 0 10;" + balls, 0, 2, 1);
+        row("person 0 0 30;person 0 0 10;person 0 0 20;" + balls, 0, 1, 2);
+        row("person 0 0 20;person 0 0 30;person 0 0 10;" + balls, 2, 0, 1);
+        row("person 0 0 20;person 0 0 10;person 0 0 30;" + balls, 2, 1, 0);
+        row("person 0 0 10;person 0 0 30;person 0 0 20;" + balls, 1, 0, 2);
+        row("person 0 0 10;person 0 0 20;person 0 0 30;" + balls, 1, 2, 0);
+        TemperDowns x = Due.of("person 0 0 30;person 0 0 20;person 0 0 10;" + balls);
+        Due.is("as it is", x.put(0), 0);
+        x.soothe(0, 10);
+        x.soothe(2, 30);
+        int[] due = {1, 2, 0};
+        for (int person = 0; person < 3; person++) {
+            Due.is("then " + person, x.put(person), due[person]);
+        }
+    }
+
     private static void notByFar() {
         row("person 0 0 5;ball 15 9;ball 0 9;", 0);
     }

@@ -24,6 +24,7 @@ public final class Promise26Test {
         milder(Due.of("person 0 5 0;"), 9, 0, 1);
         milder(Due.of("person 0 0 0;"), 9, 1, 1);
         milder(Due.of("person 0 0 0;".repeat(7)), 63, 1, 1);
+        milder(Due.of("person 0 9 5;".repeat(7)), 63, 0, 1);
     }
 
     private static void anotherThanOneHas() {

@@ -57,6 +57,20 @@ public final class Promise27Test {
         look(q, 0, 1);
     }
 
+    private static void byASingleOne() {
+        TemperDowns x = Due.of("person 0 0 0;ball 3 99 holds 50;ball 0 99;rises (mild=9)*20;bursts 0;");
+        x.see(1, 20, false);
+        look(x, 0, 1);
+    }
+
+    private static void eachUnlikeNumber() {
+        look(Due.of("person 0 0 12;ball 0 99;rises (day=0)*(mild=9)*20;bursts 0;"), 0, 2);
+        look(Due.of("person 0 0 76;ball 0 99;rises (day=0)*(mild=9)*20;bursts 0;"), 0, 2);
+        look(Due.of("person 0 0 79;ball 0 99;rises (day=0)*(11+mild);bursts 0;"), 0, 9);
+        look(Due.of("person 0 0 21;ball 0 99;rises (day=0)*(2+mild);bursts 0;"), 0, 9);
+        look(Due.of("person 0 0 85;ball 0 99;rises (day=0)*(5+mild);bursts 0;"), 0, 9);
+    }
+
     /** What is seen behind more days counts, and still it is looked at behind eight. */
     private static void seenBehindMore() {
         TemperDowns x = Due.of("person 0 0 30;ball 0 99;rises (day=0)*(1+mild);bursts day=8;");

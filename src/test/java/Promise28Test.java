@@ -52,6 +52,12 @@ public final class Promise28Test {
         Due.is("never this one", x.boys(1, 5, 10), 0);
     }
 
+    private static void theFirstHoldsMost() {
+        TemperDowns x = Due.of("person 0 0 0;".repeat(7) + "ball 0 9 holds 6;ball 1 9 holds 5;");
+        Due.is("the first", x.boys(0, 1, 4), 4);
+        Due.is("not the other", x.boys(1, 1, 4), 0);
+    }
+
     private static void setOffToo() {
         TemperDowns x = Due.of("downs 2 1;ball 0 9 holds 5;ball 1 99 holds 10;");
         Due.is("by what is trodden", x.boys(0, 1, 3), 3);

@@ -73,6 +73,26 @@ public final class Promise29Test {
         Due.is("neither", z.game(0, 1, 1), 0);
     }
 
+    /** The same, the other one being the one who could. */
+    private static void fourAndOneForTheOther() {
+        TemperDowns x = even("ball 0 15;");
+        Due.is("one heard: 3, not 4", x.game(1, 0, 1), 1);
+        Due.is("alone", x.game(1, 0, 0), 1);
+        TemperDowns y = even("ball 0 15;ball 0 9 holds 1;");
+        Due.is("two heard: 4 and 4", y.game(1, 0, 0), 2);
+        Due.is("the first of them", y.game(1, 0, 1), 0);
+        TemperDowns z = even("ball 0 15;ball 0 9 holds 1;ball 0 9 holds 1;");
+        Due.is("three heard: 5, not 4", z.game(1, 0, 0), 1);
+        Due.is("neither", z.game(1, 0, 1), 0);
+    }
+
+    private static void theGreaterNamedFirst() {
+        TemperDowns x = Due.of("person 0 0 50;person 0 0 5;person 0 0 50;ball 0 60;rises 0;bursts 0;");
+        Due.is("goes out", x.game(2, 1, 1), 10);
+        Due.is("named behind", x.game(1, 2, 1), 1);
+        Due.is("alone", x.game(2, 1, 0), 1);
+    }
+
     private static void tenByTheFirstOnesAndTheOthers() {
         TemperDowns x = Due.of("person 0 0 50;person 0 0 50;person 0 0 5;ball 0 60;rises 0;bursts 0;");
         Due.is("the first goes out", x.game(1, 2, 1), 10);

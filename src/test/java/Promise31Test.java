@@ -41,6 +41,8 @@ public final class Promise31Test {
         x.guard(9, true);
         Due.is("guarded or not", x.cell(0, 0), 1023);
         Due.is("not beside", x.cell(1, 0), 0);
+        x.days(5);
+        Due.is("of any age", x.cell(0, 0), 1023);
     }
 
     private static void nearNone() {

@@ -46,6 +46,8 @@ public final class Promise33Test {
         Due.is("of like ones the least", x.ahead(0, 1), 1);
         x.guard(1, true);
         Due.is("guarded or not", x.ahead(60, 1), 1);
+        Due.is("of ten alike, old ones", Due.of("ball 0 9 holds 1;".repeat(10)).ahead(9, 1), 0);
+        Due.is("the first", Due.of("ball 0 9 holds 6;ball 0 9 holds 5;ball 0 9;").ahead(0, 1), 0);
     }
 
     public static void main(String[] args) {

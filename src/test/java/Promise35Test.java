@@ -55,6 +55,28 @@ public final class Promise35Test {
         Due.is("as ahead of it", x.person(0, 2), 10);
     }
 
+    private static void whatWasSeenIsKept() {
+        TemperDowns x = Due.of(TEXT);
+        x.see(0, 0, true);
+        x.image();
+        x.forget();
+        x.see(0, 0, false);
+        x.restore();
+        Due.is("white or not", x.milder(2), 1);
+        x.image();
+        x.forget();
+        x.see(1, 0, true);
+        x.restore();
+        Due.is("which", x.milder(2), 1);
+        x.forget();
+        x.see(0, 1, false);
+        x.image();
+        x.forget();
+        x.see(1, 0, false);
+        x.restore();
+        Due.is("behind how many days", x.milder(2), 1);
+    }
+
     private static void allThatIsKept() {
         TemperDowns x = Due.of(TEXT);
         x.days(3);
@@ -100,9 +122,9 @@ public final class Promise35Test {
         Due.is("seen", x.count(12), 8);
         Due.is("no ninth", x.see(0, 0, true), -1);
         for (int left = 39; left >= 0; left--) {
-            x.undo();
+            Due.is("left", x.undo(), left);
+            Due.is("temper as it was", x.person(0, 2), left + 1);
         }
-        Due.is("back to the first", x.person(0, 2), 1);
         Due.is("the day", x.count(4), 0);
         Due.is("none", x.undo(), -1);
     }
